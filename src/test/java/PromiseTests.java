@@ -518,6 +518,22 @@ public final class PromiseTests {
         due("all eight", y.drop(), 255);
         due("each alone", y.clash(), 1);
         refused("drop", y, 0, 0, 0);
+        // eight sayings of six things: the last two clash, and each of them with all of a row
+        NoWhen z = Checks.things(6);
+        for (int t = 0; t < 5; t++) {
+            z.say(t, 0, t + 1, t % 3);
+        }
+        z.say(0, 6, 5, 0);
+        due("drop of a row", z.drop(), 0);
+        z.say(5, 1, 0, 3);
+        due("clash of a row and 6", z.clash(), 31 | 64);
+        due("drop of a row and 6", z.drop(), 1);
+        z.say(5, 0, 0, 3);
+        due("clash of 6 and 7", z.clash(), 64 | 128);
+        due("drop of 0 and 6", z.drop(), 1 | 64);
+        due("without 6 and 7", z.word(3), 1);
+        due("without 0 and 3", z.word(0), 0);
+        due("without 6 and 7 alone", z.against(), 8);
     }
 
     private static void p16Between() {

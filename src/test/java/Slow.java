@@ -281,7 +281,7 @@ final class Slow {
         }
     }
 
-    private static boolean keeps(int[] m, int kind, int a, int b) {
+    static boolean keeps(int[] m, int kind, int a, int b) {
         int ab = m[2 * a], ae = m[2 * a + 1], bb = m[2 * b], be = m[2 * b + 1];
         switch (kind) {
             case 0: return ae < bb;
