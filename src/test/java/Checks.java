@@ -17,6 +17,25 @@ final class Checks {
         }
     }
 
+    static void same(String what, String got, String want) {
+        if (got.equals(want)) {
+            right++;
+            return;
+        }
+        wrong++;
+        if (wrong <= 40) {
+            int k = 0;
+            while (k < got.length() && k < want.length() && got.charAt(k) == want.charAt(k)) {
+                k++;
+            }
+            System.out.println(what + " is not as due from sign " + k + " on: .. " + cut(got, k) + ", due is .. " + cut(want, k));
+        }
+    }
+
+    private static String cut(String s, int k) {
+        return s.substring(Math.max(0, k - 30), Math.min(s.length(), k + 30));
+    }
+
     static boolean anyWrong() {
         return wrong > 0;
     }

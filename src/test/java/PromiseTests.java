@@ -928,7 +928,8 @@ public final class PromiseTests {
     private static void manyCalls() {
         NoWhen x = Checks.things(2);
         x.story(1, 1);
-        for (int k = 0; k < 60; k++) {
+        // 16 calls each: an object is used for 512 at most
+        for (int k = 0; k < 31; k++) {
             due("fits", x.fits(), 13);
             due("one", x.one(-1), 1);
             due("minute", x.minute(0, 1), 98);

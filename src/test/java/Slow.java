@@ -3,7 +3,10 @@ import java.util.HashMap;
 import java.util.List;
 import java.util.Map;
 
-/** The document said again, as plainly as can be: every ORDER is made and looked at. For 5 THINGS at most. */
+/**
+ * The document said again, as plainly as can be: every ORDER is made and looked at. Of six THINGS there are too many
+ * (308 million): there only those are made on whose way no SAYING is broken, so ask it where there are few FITS.
+ */
 final class Slow {
     private static final String[] KINDS = {"ahead", "meets", "while", "inside", "begins", "ends", "apart", "cross"};
     private static final Map<Integer, List<int[]>> ORDERS = new HashMap<>();
@@ -311,6 +314,10 @@ final class Slow {
             return fitting;
         }
         fitting = new ArrayList<>();
+        if (state.things == 6) {
+            growFitting(new int[12], 0, 0);
+            return fitting;
+        }
         keepable = new boolean[256];
         int all = (1 << state.sayings.size()) - 1;
         for (int[] m : orders(state.things)) {
@@ -332,7 +339,70 @@ final class Slow {
         return fitting;
     }
 
+    /** As grow, but it turns back where what has come already breaks a SAYING or OF. */
+    private void growFitting(int[] moment, int placed, int now) {
+        if (placed == (1 << 12) - 1) {
+            fitting.add(moment.clone());
+            return;
+        }
+        int beginnings = 0x555;
+        int next = beginnings & ~placed | (placed & beginnings) << 1 & ~placed;
+        for (int s = next; s > 0; s = s - 1 & next) {
+            for (int e = 0; e < 12; e++) {
+                if ((s >> e & 1) == 1) {
+                    moment[e] = now;
+                }
+            }
+            if (mayBeKept(moment, placed | s)) {
+                growFitting(moment, placed | s, now + 1);
+            }
+        }
+    }
+
+    private boolean mayBeKept(int[] m, int placed) {
+        for (int a = 0; a < 6; a++) {
+            for (int b = a + 1; b < 6; b++) {
+                boolean isApart = state.whose[a] >= 0 && state.whose[a] == state.whose[b];
+                if (isApart && !mayBeKept(m, placed, 6, a, b)) {
+                    return false;
+                }
+            }
+        }
+        for (int[] one : state.sayings) {
+            if (!mayBeKept(m, placed, one[0], one[1], one[2])) {
+                return false;
+            }
+        }
+        return true;
+    }
+
+    /** What has not come yet comes later, each END in a MOMENT of its own: whether the SAYING is broken by what has come. */
+    private static boolean mayBeKept(int[] m, int placed, int kind, int a, int b) {
+        int ab = 2 * a, ae = 2 * a + 1, bb = 2 * b, be = 2 * b + 1;
+        switch (kind) {
+            case 0: return mayBe(m, placed, ae, bb, true);
+            case 1: return mayBe(m, placed, ae, bb, false) && mayBe(m, placed, bb, ae, false);
+            case 2: return mayBe(m, placed, bb, ab, false) && mayBe(m, placed, ae, be, false);
+            case 3: return mayBe(m, placed, bb, ab, true) && mayBe(m, placed, ae, be, true);
+            case 4: return mayBe(m, placed, ab, bb, false) && mayBe(m, placed, bb, ab, false) && mayBe(m, placed, ae, be, false);
+            case 5: return mayBe(m, placed, ae, be, false) && mayBe(m, placed, be, ae, false) && mayBe(m, placed, bb, ab, false);
+            case 6: return mayBe(m, placed, ae, bb, false) || mayBe(m, placed, be, ab, false);
+            default: return mayBe(m, placed, ab, bb, true) && mayBe(m, placed, bb, ae, true) && mayBe(m, placed, ae, be, true);
+        }
+    }
+
+    /** Whether x may still be ahead of y (or, where that is enough, in one MOMENT with it). */
+    private static boolean mayBe(int[] m, int placed, int x, int y, boolean isStrict) {
+        if ((placed >> y & 1) == 0) {
+            return true;
+        }
+        return (placed >> x & 1) == 1 && (isStrict ? m[x] < m[y] : m[x] <= m[y]);
+    }
+
     private boolean can(int choice) {
+        if (state.things == 6) {
+            return canOfSix(choice);
+        }
         fitting();
         for (int kept = 0; kept < 256; kept++) {
             if (keepable[kept] && (kept & choice) == choice) {
@@ -340,6 +410,91 @@ final class Slow {
             }
         }
         return false;
+    }
+
+    // ---- six THINGS: whether some SAYINGS can be kept, by who must come ahead of whom
+
+    private static final int FREE = 0, NO_LATER = 1, AHEAD = 2;
+
+    private boolean canOfSix(int choice) {
+        int[][] demand = new int[12][12];
+        List<int[]> aparts = new ArrayList<>();
+        for (int a = 0; a < 6; a++) {
+            demand[2 * a][2 * a + 1] = AHEAD;
+            for (int b = a + 1; b < 6; b++) {
+                if (state.whose[a] >= 0 && state.whose[a] == state.whose[b]) {
+                    aparts.add(new int[] {a, b});
+                }
+            }
+        }
+        for (int s = 0; s < state.sayings.size(); s++) {
+            if ((choice >> s & 1) == 1) {
+                int[] one = state.sayings.get(s);
+                if (one[0] == 6) {
+                    aparts.add(new int[] {one[1], one[2]});
+                } else {
+                    addDemands(demand, one[0], 2 * one[1], 2 * one[2]);
+                }
+            }
+        }
+        return canWith(demand, aparts, 0);
+    }
+
+    private static void addDemands(int[][] d, int kind, int a, int b) {
+        boolean isStrict = kind == 3 || kind == 7;
+        if (kind == 0) {
+            demand(d, a + 1, b, AHEAD);
+        } else if (kind == 1) {
+            demand(d, a + 1, b, NO_LATER);
+            demand(d, b, a + 1, NO_LATER);
+        } else if (kind == 7) {
+            demand(d, a, b, AHEAD);
+            demand(d, b, a + 1, AHEAD);
+            demand(d, a + 1, b + 1, AHEAD);
+        } else {
+            demand(d, b, a, isStrict ? AHEAD : NO_LATER);
+            demand(d, a + 1, b + 1, isStrict ? AHEAD : NO_LATER);
+            demand(d, a, b, kind == 4 ? NO_LATER : FREE);
+            demand(d, b + 1, a + 1, kind == 5 ? NO_LATER : FREE);
+        }
+    }
+
+    private static void demand(int[][] d, int x, int y, int how) {
+        d[x][y] = Math.max(d[x][y], how);
+    }
+
+    /** Each APART is the one or the other; then there is an ORDER, if no END must come ahead of itself. */
+    private static boolean canWith(int[][] demand, List<int[]> aparts, int k) {
+        int[][] d = new int[12][];
+        for (int x = 0; x < 12; x++) {
+            d[x] = demand[x].clone();
+        }
+        for (int via = 0; via < 12; via++) {
+            for (int x = 0; x < 12; x++) {
+                for (int y = 0; y < 12; y++) {
+                    if (d[x][via] != FREE && d[via][y] != FREE) {
+                        demand(d, x, y, Math.max(d[x][via], d[via][y]));
+                    }
+                }
+            }
+        }
+        for (int x = 0; x < 12; x++) {
+            if (d[x][x] == AHEAD) {
+                return false;
+            }
+        }
+        if (k == aparts.size()) {
+            return true;
+        }
+        int a = 2 * aparts.get(k)[0], b = 2 * aparts.get(k)[1];
+        int[][] one = new int[12][], other = new int[12][];
+        for (int x = 0; x < 12; x++) {
+            one[x] = d[x].clone();
+            other[x] = d[x].clone();
+        }
+        demand(one, a + 1, b, NO_LATER);
+        demand(other, b + 1, a, NO_LATER);
+        return canWith(one, aparts, k + 1) || canWith(other, aparts, k + 1);
     }
 
     // ---- what fits

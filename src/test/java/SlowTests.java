@@ -10,6 +10,7 @@ public final class SlowTests {
     private final NoWhen x = new NoWhen();
     private final Slow slow = new Slow();
     private final StringBuilder calls = new StringBuilder();
+    private int made;
     /** What truly was, so that many of the sayings can be kept together. */
     private final int[] truth = new int[12];
 
@@ -38,10 +39,14 @@ public final class SlowTests {
         for (int seed = 1; seed <= 40; seed++) {
             new SlowTests(50000 + seed, 6).sixThings();
         }
+        for (int seed = 1; seed <= 60; seed++) {
+            new SlowTests(60000 + seed, 6).sixTold();
+        }
         Checks.end("SlowTests");
     }
 
     private void same(String call, long got, long want) {
+        made++;
         calls.append(call).append("; ");
         if (got != want) {
             Checks.due(calls.toString(), got, want);
@@ -81,7 +86,8 @@ public final class SlowTests {
     }
 
     private void run(int n) {
-        for (int k = 0; k < n && !Checks.anyWrong(); k++) {
+        // an object is used for 512 calls at most, and a step takes up to 30
+        for (int k = 0; k < n && made < 470 && !Checks.anyWrong(); k++) {
             switch (upTo(4)) {
                 case 0: change(); break;
                 case 1: tell(); break;
@@ -303,6 +309,62 @@ public final class SlowTests {
                 (ahead > 0 ? 1 : 0) + (meets > 0 ? 2 : 0) + (fits > ahead + meets ? 4 : 0));
         }
         clashAndDrop();
+    }
+
+    // ---- six THINGS of which so much is said that few ORDERS are left
+
+    private void sixTold() {
+        boolean[] his = new boolean[6];
+        for (int t = 0; t < 6; t++) {
+            same("thing()", x.thing(), slow.thing());
+            his[t] = upTo(3) > 0 && isApartFrom(his, t);
+            int whose = his[t] ? 0 : -1;
+            same("of(" + t + ", " + whose + ")", x.of(t, whose), slow.of(t, whose));
+            int v = upTo(6) == 0 ? upTo(2) : t % 2;
+            same("story(" + t + ", " + v + ")", x.story(t, v), slow.story(t, v));
+        }
+        for (int s = 0; s < 8; s++) {
+            int a = upTo(6), b = upTo(6), k = upTo(8);
+            for (int tries = 0; tries < 60 && (a == b || !Slow.keeps(truth, k, a, b) || k == 6 && tries < 40); tries++) {
+                a = upTo(6);
+                b = upTo(6);
+                k = upTo(8);
+            }
+            int p = aPerson();
+            same("say(" + a + ", " + k + ", " + b + ", " + p + ")", x.say(a, k, b, p), slow.say(a, k, b, p));
+        }
+        int watched = upTo(6);
+        for (int k = 0; k < watched; k++) {
+            int e = upTo(12), m = upTo(3) == 0 ? aMinute() : 9 * truth[e] + upTo(3);
+            same("watch(" + e + ", " + m + ")", x.watch(e, m), slow.watch(e, m));
+        }
+        if (x.fits() <= 30000) {
+            for (int k = 0; k < 40; k++) {
+                askOf();
+                wonder();
+            }
+        }
+        for (int k = 0; k < 10; k++) {
+            same("clash()", x.clash(), slow.clash());
+            same("drop()", x.drop(), slow.drop());
+            same("against()", x.against(), slow.against());
+            for (int p = 0; p < 4; p++) {
+                same("word(" + p + ")", x.word(p), slow.word(p));
+            }
+            int a = upTo(6), b = (a + 1 + upTo(5)) % 6, kind = upTo(8), p = aPerson();
+            same("unsay()", x.unsay(), slow.unsay());
+            same("say(" + a + ", " + kind + ", " + b + ", " + p + ")", x.say(a, kind, b, p), slow.say(a, kind, b, p));
+        }
+    }
+
+    /** Whether one person can have been at this THING and at all that he is said to have been at. */
+    private boolean isApartFrom(boolean[] his, int thing) {
+        for (int t = 0; t < thing; t++) {
+            if (his[t] && !Slow.keeps(truth, 6, t, thing)) {
+                return false;
+            }
+        }
+        return true;
     }
 
     private long with(int a, int kind, int b) {
