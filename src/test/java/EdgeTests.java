@@ -172,6 +172,7 @@ public final class EdgeTests {
         Checks.typed(x, Sample.FULL_TEXT);
         x.read();
         x.watch(11, 99);
+        Look.at(x);
         x.from(0);
         x.clear();
         Checks.same("nothing left", Look.at(x), Look.at(new NoWhen()));
@@ -541,6 +542,8 @@ public final class EdgeTests {
         for (int kind : new int[] {0, 1, 3, 7}) {
             asks("all sure", said(2, new int[] {kind, 0, 1}), -1, -1);
         }
+        // a row of 0 and 2, 1 anywhere: its beginning ahead of the end of 0 in 23 of 41; as many for its end and 2
+        asks("1, 2 and 3, 4 leave 23 each", said(3, new int[] {0, 0, 2}), 102, 23);
         // the first pair that is not SURE leaves more than a later one
         NoWhen x = said(3, new int[] {4, 0, 1}, new int[] {0, 2, 0});
         asks("1, 3 behind many that are sure", x, 103, 1);
@@ -578,6 +581,18 @@ public final class EdgeTests {
         // 0 and 1 end as one, but 2 comes ahead of the beginning of 0 and behind that of 1
         NoWhen y = stories(said(4, ends, new int[] {0, 2, 0}, new int[] {2, 2, 1}), 0, 1, 0, 1);
         due("they begin otherwise", y.one(-1), 0);
+        // each way is a way by itself, though no FIT has all of them
+        NoWhen row = stories(said(4, new int[] {0, 0, 1}), 0, 0, 1, 1);
+        due("two ways", row.one(-1), 2);
+        due("0 is 2", row.one(0), 2);
+        due("1 is 3", row.one(1), 3);
+        due("no third", row.one(2), -5);
+        row.say(3, 0, 2, 0);
+        due("one way", row.one(-1), 1);
+        due("0 is 3", row.one(0), 3);
+        due("1 is 2", row.one(1), 2);
+        NoWhen rows = stories(said(6, new int[] {0, 0, 2}, new int[] {0, 2, 4}), 0, 1, 0, 1, 0, 1);
+        due("six ways", rows.one(-1), 6);
         // two of one person can not be one, of two people they can
         NoWhen z = stories(things(4), 1, 1, 0, 0);
         z.of(0, 2);

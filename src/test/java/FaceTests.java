@@ -7,6 +7,8 @@ import java.nio.file.Files;
 import java.nio.file.Path;
 import java.util.List;
 import java.util.TreeSet;
+import java.util.regex.Matcher;
+import java.util.regex.Pattern;
 
 /** The face of the class, and those rules of LANGUAGE.md that can be seen in its members and its text. */
 public final class FaceTests {
@@ -101,6 +103,15 @@ public final class FaceTests {
         Checks.due("fields of " + c, own <= 20 ? 1 : 0, 1);
     }
 
+    /** Of the library only these are used, fewer than LANGUAGE.md allows. */
+    private static void library(String code, int line) {
+        Matcher call = Pattern.compile("\\b[A-Z][a-z]\\w*\\.\\w+").matcher(code);
+        while (call.find()) {
+            boolean isAllowed = List.of("Math.min", "Math.max", "Integer.bitCount").contains(call.group());
+            Checks.due("line " + line + " calls " + call.group(), isAllowed ? 1 : 0, 1);
+        }
+    }
+
     private static void text(List<String> lines) {
         String[] never = {"throw", "try", "catch", "synchronized", "assert", "import", "package", "protected", "var",
             "System", "Random", "Thread", "->", "::", "finally", "volatile"};
@@ -114,6 +125,10 @@ public final class FaceTests {
                 Checks.due("line " + (k + 1) + " has " + word, stands ? 1 : 0, 0);
             }
             Checks.due("line " + (k + 1) + " is of signs 32 to 126", line.chars().allMatch(c -> c >= 32 && c < 127) ? 1 : 0, 1);
+            // no call makes an object: all rows are made with the object itself
+            Checks.due("line " + (k + 1) + " makes an object in a call",
+                code.matches(".*\\bnew\\b.*") && !code.matches("\\s+(private |final )+[A-Z]?[A-Za-z]+(\\[\\])? [A-Za-z]+ = (new|\\{new) .*;") ? 1 : 0, 0);
+            library(code, k + 1);
             if (code.matches("\\s+[A-Za-z].*\\(.*\\) \\{") && !code.matches("\\s+(for|if|while|switch|do|\\}).*")) {
                 start = k;
             }

@@ -24,10 +24,12 @@ public final class FaultTests {
         blanks();
         lettersAndFigures();
         endsTooEarly();
+        wordsLetterByLetter();
         empty();
         full();
         stays();
         takesThePlace();
+        tellsNothingTwice();
         Checks.end("FaultTests");
     }
 
@@ -323,6 +325,25 @@ public final class FaultTests {
         return k;
     }
 
+    /** A word of which one letter is another, one is too few or one too many, is none: at its first byte. */
+    private static void wordsLetterByLetter() {
+        String[] words = {"things", "of", "story", "by", "ahead", "meets", "while", "inside", "begins", "ends", "apart", "cross"};
+        String[] ahead = {"", "things 2;", "things 2;", "things 2;0 ahead 1 "};
+        String[] behind = {" 2;", " 0 1;", " 1;", " 1;"};
+        for (int w = 0; w < words.length; w++) {
+            String from = w < 4 ? ahead[w] : "things 2;0 ", to = w < 4 ? behind[w] : " 1;";
+            String word = words[w];
+            stands(from + word + to);
+            for (int k = 0; k < word.length(); k++) {
+                String before = word.substring(0, k), after = word.substring(k + 1);
+                fault(from + before + (char) (word.charAt(k) - 1) + after + to, from.length());
+                fault(from + before + (char) (word.charAt(k) + 1) + after + to, from.length());
+                fault(from + before + after + to, from.length());
+                fault(from + before + word.charAt(k) + word.charAt(k) + after + to, from.length());
+            }
+        }
+    }
+
     private static void empty() {
         NoWhen x = new NoWhen();
         Checks.due("read of nothing ever typed", x.read(), -10);
@@ -408,5 +429,32 @@ public final class FaultTests {
             y.thing();
             y.say(3, 0, 2, 1);
         }
+    }
+
+    /** What one TEXT told, be it with a FAULT, the next does not tell. */
+    private static void tellsNothingTwice() {
+        String[] before = {Sample.FULL_TEXT, "things 6;of 0 0;of 5 1;story 0;story 5;0 ahead 5 by 3;5 meets 0 by 2;;"};
+        for (String text : before) {
+            for (int n = 1; n <= 6; n++) {
+                NoWhen x = new NoWhen(), never = new NoWhen();
+                Checks.typed(x, text);
+                Checks.due("read", x.read(), text.equals(Sample.FULL_TEXT) ? 8 : -10 - text.length() + 1);
+                x.clear();
+                Checks.typed(x, "things " + n + ";");
+                Checks.typed(never, "things " + n + ";");
+                Checks.due("read of " + n, x.read(), never.read());
+                Checks.same("things " + n + " behind " + text, Look.at(x), Look.at(never));
+                for (int t = n; t < 6; t++) {
+                    Checks.due("thing", x.thing(), never.thing());
+                }
+                Checks.same("six things behind " + text, Look.at(x), Look.at(never));
+                Checks.due("digest", x.digest(), never.digest());
+            }
+        }
+        // by is 0 where it is not told, though the SAYING ahead of it was by 3
+        NoWhen y = new NoWhen();
+        Checks.typed(y, "things 2;0 ahead 1 by 3;1 ahead 0;");
+        Checks.due("read", y.read(), 2);
+        Checks.due("against", y.against(), 1 | 8);
     }
 }
