@@ -10,6 +10,11 @@ public final class EdgeTests {
     private static final String[] KEPT = {"1000000000000", "0100000000000", "0001111000000", "0000100000000", "0001001000000",
         "0000011000000", "1100000000011", "0010000000000"};
 
+    /** What Sample.SOME holds: whose and STORY; KIND, a, b, by whom; MINUTES. */
+    private static final int[][] SOME_THINGS = {{1, 0}, {-1, 0}, {1, 1}};
+    private static final int[][] SOME_SAYINGS = {{1, 0, 1, 3}, {2, 2, 1, 0}};
+    private static final int[] SOME_WATCH = {7, -1, -1, 40, -1, -1};
+
     private EdgeTests() {
     }
 
@@ -49,6 +54,7 @@ public final class EdgeTests {
         imageOfEmpty();
         statusOf512();
         nothingTwice();
+        eachChangesItsOwn();
         Checks.end("EdgeTests");
     }
 
@@ -868,7 +874,7 @@ public final class EdgeTests {
             x.image(1 - i);
             x.first(99);
             due("from(" + i + ")", x.from(i), 1);
-            Checks.same("status stays", Look.status(x), "1 BAD, 0 NO, 0 FULL");
+            Checks.same("status stays", Look.status(x), "4 BAD, 2 NO, 1 FULL");
             Checks.same("the image", Look.at(x), Look.at(kept));
             due("the text stays", x.count(3), 9);
             due("the other image", x.from(1 - i), 1);
@@ -943,6 +949,77 @@ public final class EdgeTests {
                 due(change.name(), change.on(x), change.on(never));
                 Checks.same(sample.name() + " behind " + change.name(), Look.through(x), Look.through(never));
             }
+        }
+    }
+
+    private static long digestOf(int[][] things, int[][] sayings, int[] watch, int bytes) {
+        int watched = 0;
+        for (int minute : watch) {
+            watched += minute == -1 ? 0 : 1;
+        }
+        long h = 709;
+        for (int count : new int[] {things.length, sayings.length, watched, bytes}) {
+            h = 31 * h + count;
+        }
+        for (int[][] rows : new int[][][] {things, sayings, {watch}}) {
+            for (int[] row : rows) {
+                for (int v : row) {
+                    h = 31 * h + v;
+                }
+            }
+        }
+        return h;
+    }
+
+    /** Behind the call this is what there is; THE TEXT (but by type and clear), the IMAGES and STATUS are as they were. */
+    private static void leaves(Call call, long digest, int read) {
+        NoWhen x = Sample.SOME.make();
+        call.on(x);
+        due("digest behind " + call.name(), x.digest(), digest);
+        Checks.same("status behind " + call.name(), Look.status(x), Sample.STATUS);
+        due("read behind " + call.name(), x.read(), read);
+        if (read == 1) {
+            int bytes = x.count(3);
+            long told = digestOf(new int[][] {{-1, 0}, {-1, 1}}, new int[][] {{7, 1, 0, 2}}, new int[] {-1, -1, -1, -1}, bytes);
+            due("digest of the text behind " + call.name(), x.digest(), told);
+        }
+        due("from(0) behind " + call.name(), x.from(0), 1);
+        x.clear();
+        long image = digestOf(new int[][] {{-1, 0}, {-1, 0}}, new int[][] {{1, 0, 1, 3}}, new int[] {-1, -1, -1, 40}, 0);
+        due("digest of the image behind " + call.name(), x.digest(), call.name().equals("image(0)") ? someWith(0) : image);
+        due("from(1) behind " + call.name(), x.from(1), call.name().equals("image(1)") ? 1 : -3);
+    }
+
+    private static long someWith(int bytes) {
+        return digestOf(SOME_THINGS, SOME_SAYINGS, SOME_WATCH, bytes);
+    }
+
+    private static void eachChangesItsOwn() {
+        due("digest of some", Sample.SOME.make().digest(), someWith(32));
+        int[][] two = {{1, 0, 1, 3}}, three = {{1, 0, 1, 3}, {2, 2, 1, 0}, {5, 0, 2, 3}};
+        int[] wide = {7, -1, -1, 40, -1, -1, -1, -1};
+        leaves(Call.thing(), digestOf(new int[][] {{1, 0}, {-1, 0}, {1, 1}, {-1, 0}}, SOME_SAYINGS, wide, 32), 1);
+        leaves(Call.of(1, 3), digestOf(new int[][] {{1, 0}, {3, 0}, {1, 1}}, SOME_SAYINGS, SOME_WATCH, 32), 1);
+        leaves(Call.of(2, -1), digestOf(new int[][] {{1, 0}, {-1, 0}, {-1, 1}}, SOME_SAYINGS, SOME_WATCH, 32), 1);
+        leaves(Call.story(0, 1), digestOf(new int[][] {{1, 1}, {-1, 0}, {1, 1}}, SOME_SAYINGS, SOME_WATCH, 32), 1);
+        leaves(Call.story(2, 0), digestOf(new int[][] {{1, 0}, {-1, 0}, {1, 0}}, SOME_SAYINGS, SOME_WATCH, 32), 1);
+        leaves(Call.say(0, 5, 2, 3), digestOf(SOME_THINGS, three, SOME_WATCH, 32), 1);
+        leaves(Call.unsay(), digestOf(SOME_THINGS, two, SOME_WATCH, 32), 1);
+        leaves(Call.watch(0, -1), digestOf(SOME_THINGS, SOME_SAYINGS, new int[] {-1, -1, -1, 40, -1, -1}, 32), 1);
+        leaves(Call.watch(5, 99), digestOf(SOME_THINGS, SOME_SAYINGS, new int[] {7, -1, -1, 40, -1, 99}, 32), 1);
+        leaves(Call.watch(3, 0), digestOf(SOME_THINGS, SOME_SAYINGS, new int[] {7, -1, -1, 0, -1, -1}, 32), 1);
+        leaves(Call.type(' ', 1), someWith(33), 1);
+        leaves(Call.type(';', 1), someWith(33), -10 - 32);
+        leaves(Call.clear(), someWith(0), -10);
+        leaves(Call.image(0), someWith(32), 1);
+        leaves(Call.image(1), someWith(32), 1);
+        leaves(Call.from(0), digestOf(new int[][] {{-1, 0}, {-1, 0}}, two, new int[] {-1, -1, -1, 40}, 32), 1);
+        leaves(Call.read(), digestOf(new int[][] {{-1, 0}, {-1, 1}}, new int[][] {{7, 1, 0, 2}}, new int[] {-1, -1, -1, -1}, 32), 1);
+        Call[] asking = {Call.fits(), Call.first(0), Call.moments(), Call.last(0), Call.clash(), Call.drop(), Call.between(0, 1), Call.sure(),
+            Call.together(0, 1), Call.ask(0), Call.ask(1), Call.word(0), Call.against(), Call.minute(0, 0), Call.status(0), Call.count(0),
+            Call.digest()};
+        for (Call call : asking) {
+            leaves(call, someWith(32), 1);
         }
     }
 }

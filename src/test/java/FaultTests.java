@@ -407,7 +407,7 @@ public final class FaultTests {
         Checks.due("read of two things", x.read(), 0);
         NoWhen two = Checks.things(2);
         Checks.typed(two, "things 2;");
-        Checks.same("status stays", Look.status(x), "1 BAD, 0 NO, 1 FULL");
+        Checks.same("status stays", Look.status(x), "4 BAD, 2 NO, 2 FULL");
         Checks.same("two things read", Look.at(x), Look.at(two));
         Checks.due("the text stays", x.count(3), 9);
         Checks.due("a third thing", x.thing(), 2);

@@ -18,9 +18,26 @@ record Sample(String name, Supplier<NoWhen> maker) {
         return maker.get();
     }
 
+    /** What STATUS tells of all samples but the empty one. */
+    static final String STATUS = "3 BAD, 2 NO, 1 FULL";
+
+    /** Nothing yet, but that calls were refused for each reason. */
+    private static NoWhen refusedBefore(int things) {
+        NoWhen x = Checks.things(things);
+        for (int k = 0; k < 3; k++) {
+            x.count(4 + k);
+        }
+        x.unsay();
+        x.unsay();
+        Checks.typed(x, ";".repeat(200));
+        x.type(0, 1);
+        x.clear();
+        return x;
+    }
+
     /** Three THINGS (0 meets 1, 2 while 1), THE TEXT of 32 bytes; IMAGE 0 has two THINGS, IMAGE 1 was never kept. */
     private static NoWhen some() {
-        NoWhen x = Checks.things(2);
+        NoWhen x = refusedBefore(2);
         x.say(0, 1, 1, 3);
         x.watch(3, 40);
         x.image(0);
@@ -43,7 +60,7 @@ record Sample(String name, Supplier<NoWhen> maker) {
 
     /** Six THINGS, eight SAYINGS, THE WATCH of all ENDS, THE TEXT of 200 bytes; both IMAGES. */
     private static NoWhen full() {
-        NoWhen x = Checks.things(1);
+        NoWhen x = refusedBefore(1);
         x.of(0, 2);
         x.image(1);
         for (int t = 1; t < 6; t++) {
